@@ -18,6 +18,14 @@ final class Due {
         is(what, holds ? 1 : 0, 1);
     }
 
+    /** Answers in a row; tells the first wrong one alone, for those behind it often follow from it. */
+    static void same(String what, int[] got, int[] want) {
+        int at = Arrays.mismatch(got, want);
+        if (at >= 0) {
+            is(what + ", answer " + at, got[at], want[at]);
+        }
+    }
+
     /** The whole stage, and that nothing lies around it; takes 3 calls and one for every byte. */
     static void stage(String what, SimilarDelta x, int... want) {
         is(what + ": stageLength()", x.stageLength(), want.length);

@@ -41,14 +41,6 @@ public final class PromisesTest {
         return x;
     }
 
-    private static void put(SimilarDelta x, int slot, int... bytes) {
-        x.begin();
-        for (int b : bytes) {
-            x.feed(b);
-        }
-        x.save(slot);
-    }
-
     private static void promise1NewObject() {
         SimilarDelta x = new SimilarDelta();
         Due.stage("1 new", x);
@@ -144,7 +136,7 @@ public final class PromisesTest {
     private static void promise5FeedFrom() {
         SimilarDelta x = staged(10, 20, 30, 40);
         x.save(0);
-        put(x, 5, 50, 60);
+        States.put(x, 5, 50, 60);
         x.begin();
         x.feed(1);
         Due.is("5 middle", x.feedFrom(0, 1, 2), 3);
@@ -161,10 +153,10 @@ public final class PromisesTest {
         }
         Due.stage("5 refused", x, 1, 20, 30, 50, 60, 40);
         Due.backup("5 source stays", x, 0, 10, 20, 30, 40);
-        put(x, 3);
+        States.put(x, 3);
         Due.is("5 from an empty one", x.feedFrom(3, 0, 0), 0);
         Due.is("5 too much of an empty one", x.feedFrom(3, 0, 1), BAD_PLACE);
-        put(x, 4, 3);
+        States.put(x, 4, 3);
         Due.is("5 drop", x.drop(0), 4);
         Due.is("5 dropped", x.feedFrom(0, 0, 1), NO_BACKUP);
         Due.stage("5 dropped", x, 3);
@@ -432,7 +424,7 @@ public final class PromisesTest {
         for (int at : new int[] {-1, -96, 96, 97, MAX, MIN}) {
             Due.is("14 byteAt(5, " + at + ")", x.byteAt(5, at), BAD_PLACE);
         }
-        put(x, 1, 7, 8);
+        States.put(x, 1, 7, 8);
         Due.is("14 last", x.byteAt(1, 1), 8);
         Due.is("14 behind the last", x.byteAt(1, 2), BAD_PLACE);
         x.drop(1);
@@ -447,13 +439,13 @@ public final class PromisesTest {
         Due.is("15 no backup", x.sum(0), 0);
         x.save(0);
         Due.is("15 empty", x.sum(0), 7);
-        put(x, 1, 0);
+        States.put(x, 1, 0);
         Due.is("15 a zero", x.sum(1), 917);
-        put(x, 2, 1, 255);
+        States.put(x, 2, 1, 255);
         Due.is("15 two bytes", x.sum(2), (7 * 131 + 1) * 131 + 255);
-        put(x, 3, 255, 1);
+        States.put(x, 3, 255, 1);
         Due.is("15 the other order", x.sum(3), (7 * 131 + 255) * 131 + 1);
-        put(x, 4, 255, 255, 255, 255, 255);
+        States.put(x, 4, 255, 255, 255, 255, 255);
         Due.is("15 wrapping", x.sum(4), Due.sumOf(255, 255, 255, 255, 255));
         x.begin();
         x.feedRun(200, 0, 96);
@@ -465,11 +457,11 @@ public final class PromisesTest {
 
     private static void promise16CommonStart() {
         SimilarDelta x = new SimilarDelta();
-        put(x, 0, 1, 2, 3, 4);
-        put(x, 1, 1, 2, 9, 4);
-        put(x, 2, 1, 2, 3);
-        put(x, 3);
-        put(x, 5, 8, 2, 3, 4);
+        States.put(x, 0, 1, 2, 3, 4);
+        States.put(x, 1, 1, 2, 9, 4);
+        States.put(x, 2, 1, 2, 3);
+        States.put(x, 3);
+        States.put(x, 5, 8, 2, 3, 4);
         int[][] due = {{0, 1, 2}, {1, 0, 2}, {0, 2, 3}, {2, 0, 3}, {1, 2, 2}, {0, 3, 0}, {3, 0, 0}, {0, 5, 0}, {5, 0, 0},
             {0, 0, 4}, {2, 2, 3}, {3, 3, 0}, {5, 5, 4}, {0, 4, NO_BACKUP}, {4, 0, NO_BACKUP}, {4, 4, NO_BACKUP}};
         for (int[] row : due) {
